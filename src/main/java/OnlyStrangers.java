@@ -1266,14 +1266,15 @@ public final class OnlyStrangers {
         /** Those who are in no group of two or more by any row. Sets of closed pairs that come later are greater. */
         private int leftOut(Scene scene, int closed, Parish rules) {
             int start = begin(scene, closed, rules);
+            int everybody = scene.everybody();
             int together = 0;
-            for (int at = start; at < pairSets && at < PAIR_SETS; at++) {
+            for (int at = start; at < pairSets && at < PAIR_SETS && together != everybody; at++) {
                 if ((seen[0][at] | seen[1][at]) != 0) {
                     goSingly(at);
                     together |= goTogether(at);
                 }
             }
-            return scene.everybody() & ~together;
+            return everybody & ~together;
         }
 
         /** All places that are reached by people who go alone, which closes no pairs. */
