@@ -1092,7 +1092,7 @@ public final class OnlyStrangers {
         /** The groups of people that are there and of a size that may go. */
         private final int[] going = new int[GROUPS];
         private int goingCount = 0;
-        /** How many sets of pairs of people that are there there are. */
+        /** How many sets of pairs there are among the people that are there. */
         private int pairSets = 1;
         /** For each boat's shore and closed pairs the places (bit s: just s are on shore 1) that were reached. */
         private final int[][] seen = new int[2][PAIR_SETS];
