@@ -968,22 +968,19 @@ public final class OnlyStrangers {
             }
         }
 
-        private boolean isDigit() {
-            return sign() >= '0' && sign() <= '9';
-        }
-
         /** A number of one digit or two; 0 where there is none. */
         private int readNumber() {
-            if (failed || !isDigit()) {
-                failed = true;
-                return 0;
+            int number = 0;
+            int digits = 0;
+            for (int k = 0; k < 2 && !failed; k++) {
+                int digit = sign() - '0';
+                if (digit >= 0 && digit <= 9) {
+                    number = number * 10 + digit;
+                    digits++;
+                    at++;
+                }
             }
-            int number = sign() - '0';
-            at++;
-            if (isDigit()) {
-                number = number * 10 + sign() - '0';
-                at++;
-            }
+            failed |= digits == 0;
             return number;
         }
 

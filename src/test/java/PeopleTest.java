@@ -9,6 +9,7 @@ public final class PeopleTest {
         texts();
         readings();
         faults();
+        faultThenParish();
         sixParishes();
         barred();
         Check.end("PeopleTest", 1, 10);
@@ -127,6 +128,7 @@ public final class PeopleTest {
         Check.due(10, "pair(0, 1, 0)", x.pair(0, 1, 0), 1);
         Check.due(10, "pair(0, 2, 0)", x.pair(0, 2, 0), 1);
         Check.due(9, "told(5)", x.told(5), 2);
+        Check.due(3, "of(0, 2)", x.of(0, 2), 2);
         x.cross(4);
         Check.due(10, "pair(0, 1, 0)", x.pair(0, 1, 0), 0);
         Check.due(10, "pair(0, 1, 2)", x.pair(0, 1, 2), 2);
@@ -139,6 +141,14 @@ public final class PeopleTest {
         Check.due(9, "told(5)", x.told(5), 2);
         Check.due(9, "told(4)", x.told(4), 3);
         Check.due(9, "told(3)", x.told(3), 1);
+        OnlyStrangers y = Check.crowd(2);
+        Check.parish(y, "forget 2");
+        y.meet(0, 1, true);
+        y.cross(1);
+        Check.due(5, "meet(0, 1, true), one crossing gone", y.meet(0, 1, true), 1);
+        y.cross(1);
+        y.cross(1);
+        Check.due(5, "meet(0, 1, false), two crossings gone", y.meet(0, 1, false), 0);
     }
 
     private static void texts() {
@@ -183,6 +193,22 @@ public final class PeopleTest {
         Check.due(8, "parish() of ten", Check.parish(x, ten), 2);
         Check.due(9, "told(0)", x.told(0), 10);
         Check.due(8, "parish() of eleven", Check.parish(x, ten + ";holds 1"), -10 - ten.length());
+    }
+
+    /** Nothing of a text with a fault stays. */
+    private static void faultThenParish() {
+        OnlyStrangers x = Check.crowd(2);
+        String text = "holds 5;least 3;forget 4;bar a<9;worth 9 n<9;worth 8 n<9;worth 7";
+        Check.due(8, "parish()", Check.parish(x, text), -10 - text.length());
+        Check.due(9, "told(0)", x.told(0), 2);
+        Check.due(10, "pair(0, 1, 1)", x.pair(0, 1, 1), 0);
+        Check.due(8, "parish()", Check.parish(x, "worth 2 n=1"), 0);
+        Check.due(9, "told(0)", x.told(0), 2);
+        Check.due(9, "told(1)", x.told(1), 1);
+        Check.due(9, "told(2)", x.told(2), 0);
+        Check.due(10, "pair(0, 1, 1)", x.pair(0, 1, 1), 0);
+        Check.due(8, "group(1, 1)", x.group(1, 1), 2);
+        Check.due(8, "group(3, 1)", x.group(3, 1), 0);
     }
 
     private static void faults() {

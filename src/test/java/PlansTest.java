@@ -6,6 +6,7 @@ public final class PlansTest {
         needs();
         lots();
         best();
+        bestForgets();
         toldRows();
         groups();
         worths();
@@ -134,18 +135,47 @@ public final class PlansTest {
         x.meet(0, 3, true);
         x.meet(1, 3, true);
         // only 2 does not know 3: what is behind each group is looked at by going there
-        int bestRow = -1;
+        Check.due(12, "BEST", x.by(0, 2), lookedFor(x));
+        OnlyStrangers y = new OnlyStrangers();
+        for (int p = 0; p < 5; p++) {
+            y.person(p == 0 || p == 2 ? 1 : 0, 1);
+        }
+        y.plan(4, 0);
+        Check.parish(y, "holds 3;bar a=0&b=1");
+        y.meet(2, 3, true);
+        // one more crossing is better than one person more
+        Check.due(12, "BEST", y.by(0, 2), 16);
+        Check.due(12, "BEST", y.by(0, 2), lookedFor(y));
+    }
+
+    /** Goes with each group that may go, the greater ones first, and looks; the first one of the most. */
+    private static int lookedFor(OnlyStrangers x) {
+        int best = -5;
         int most = -1;
-        for (int size = 2; size > 0; size--) {
-            for (int g = 1; g < 8; g++) {
-                // ascending, and the greater ones first: the first one of the most stays
-                if (Integer.bitCount(g) == size && longestBehind(x, g) > most) {
+        for (int size = 5; size > 0; size--) {
+            for (int g = 1; g < 32; g++) {
+                if (Integer.bitCount(g) == size && x.group(g, 0) == 1 && longestBehind(x, g) > most) {
                     most = longestBehind(x, g);
-                    bestRow = g;
+                    best = g;
                 }
             }
         }
-        Check.due(12, "BEST", x.by(0, 2), bestRow);
+        return best;
+    }
+
+    private static void bestForgets() {
+        OnlyStrangers x = new OnlyStrangers();
+        x.person(1, 0);
+        x.person(0, 1);
+        x.person(0, 0);
+        x.plan(4, 0);
+        x.meet(0, 1, true);
+        Check.parish(x, "holds 4;forget 1");
+        // behind the crossing 0 and 1 are strangers again: 0 1, 0 2 behind 1; as many behind 2
+        Check.due(12, "BEST", x.by(0, 2), 2);
+        Check.parish(x, "holds 4;forget 2");
+        // behind the crossing they still know one another: none behind 1
+        Check.due(12, "BEST", x.by(0, 2), 4);
     }
 
     private static int longestBehind(OnlyStrangers x, int group) {

@@ -33,10 +33,17 @@ public final class RowsTest {
         x.boat(0);
         // 0 1 2 go, 0 3 4 come, and there each has met one of the others
         Check.due(18, "longest()", x.longest(), 2);
+        Check.parish(x, "holds 5;least 2");
+        Check.due(18, "longest()", x.longest(), 10);
         Check.parish(x, "holds 1");
         Check.due(18, "longest()", x.longest(), 0);
         Check.parish(x, "holds 2;bar a<9");
         Check.due(18, "longest()", x.longest(), 0);
+        OnlyStrangers y = Check.crowd(5);
+        Check.parish(y, "holds 5;least 5");
+        Check.due(18, "longest() of all", y.longest(), 1);
+        y.meet(0, 1, true);
+        Check.due(18, "longest() of all but two", y.longest(), 0);
         Check.due(18, "longest() of nobody", new OnlyStrangers().longest(), 0);
         Check.due(18, "longest() of one", Check.crowd(1).longest(), 0);
         Check.due(18, "longest() of two", Check.crowd(2).longest(), 1);
@@ -135,6 +142,9 @@ public final class RowsTest {
         Check.due(20, "left()", x.left(), 15);
         Check.parish(x, "holds 3;forget 2;bar b=3");
         Check.due(20, "left()", x.left(), 9);
+        OnlyStrangers y = Check.crowd(2);
+        Check.parish(y, "least 2");
+        Check.due(20, "left() of two", y.left(), 0);
         Check.due(20, "left() of nobody", new OnlyStrangers().left(), 0);
         Check.due(20, "left() of one", Check.crowd(1).left(), 1);
     }

@@ -109,6 +109,17 @@ public final class TapesTest {
         Check.due(29, "image()", x.image(), 3);
         Check.due(30, "undo()", x.undo(), 3);
         Check.due(30, "told(4)", x.told(4), 2);
+        x.book(-1);
+        x.book(1);
+        x.book(2);
+        Check.due(30, "readBook()", x.readBook(), 1);
+        x.image();
+        x.book(-1);
+        x.book(4);
+        x.book(4);
+        Check.due(30, "readBook()", x.readBook(), 2);
+        x.undo();
+        Check.due(30, "readBook()", x.readBook(), 1);
         Check.due(30, "person(0, 0)", x.person(0, 0), 3);
         Check.due(30, "pair(3, 0, 2)", x.pair(3, 0, 2), -5);
         OnlyStrangers y = new OnlyStrangers();
