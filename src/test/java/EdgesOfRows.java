@@ -143,6 +143,13 @@ final class EdgesOfRows {
                 Edge.due("longest(), least " + least + ", holds " + holds, x.longest(), longestOf(x));
             }
         }
+        OnlyStrangers z = Edge.people("01", "01", "01", "11", "11");
+        String[] texts = {"holds 1", "holds 2", "holds 1;least 0", "holds 5;least 3", "holds 2;least 3", "holds 2;least 0"};
+        int[] next = {0, 10, 0, 2, 0, 10};
+        for (int k = 0; k < texts.length; k++) {
+            Edge.with(z, texts[k]);
+            Edge.due("longest() of " + texts[k] + " behind another parish", z.longest(), next[k]);
+        }
         OnlyStrangers y = Edge.with(Edge.crowd(5), "least 5;holds 99");
         Edge.due("longest() of all five", y.longest(), 1);
         Edge.with(y, "least 6;holds 99");
@@ -214,6 +221,17 @@ final class EdgesOfRows {
         dueHome("of three by two, another one there", y, 3, 3);
         dueHome("of four by three", Edge.with(Edge.crowd(4), "holds 3"), 3, 3);
         dueHome("of one behind another", Edge.people("01", "11", "10"), 2, 1);
+        OnlyStrangers z = Edge.with(Edge.crowd(3), "holds 2;least 0");
+        dueHome("of three, least 0", z, 3, 3);
+        z.meet(0, 1, true);
+        z.meet(0, 2, true);
+        dueHome("of three, 0 met both", z, -5, -5);
+        for (int p = 0; p < 3; p++) {
+            z.set(p, 1, 0);
+        }
+        dueHome("of all who are there now", z, 0, 0);
+        z.set(0, 1, 1);
+        dueHome("of one who goes", z, 1, 1);
         OnlyStrangers there = Edge.people("10", "10", "11", "00", "10");
         there.boat(1);
         dueHome("of three from shore 1", there, 3, 3);
@@ -286,6 +304,16 @@ final class EdgesOfRows {
         Edge.due("left(), holds 0", Edge.with(Edge.crowd(3), "holds 0").left(), 7);
         Edge.due("left(), more at least than are there", Edge.with(Edge.crowd(3), "least 4;holds 5").left(), 7);
         Edge.due("left(), three at once", Edge.with(Edge.crowd(3), "least 3;holds 3").left(), 0);
+        OnlyStrangers many = Edge.crowd(5);
+        String[] texts = {"holds 5;least 0", "holds 1;least 0", "holds 5;least 5", "holds 4;least 5", "least 0"};
+        int[] due = {0, 31, 0, 31, 0};
+        for (int k = 0; k < texts.length; k++) {
+            Edge.with(many, texts[k]);
+            Edge.due("left() of " + texts[k] + " behind another parish", many.left(), due[k]);
+        }
+        many.meet(0, 1, true);
+        Edge.with(many, "holds 5;least 5");
+        Edge.due("left(): only all five at once, 0 met 1", many.left(), 31);
         OnlyStrangers y = Edge.with(Edge.crowd(4), "least 3;holds 3");
         y.meet(0, 1, true);
         Edge.due("left(): 2 and 3 with 0 or 1", y.left(), 0);
@@ -431,6 +459,13 @@ final class EdgesOfRows {
         dueLikely("of four, 3 knows two", y, 2, 2, 3);
         y.meet(2, 3, true);
         dueLikely("of four, 3 knows all", y, 2, 0, 1);
+        OnlyStrangers z = Edge.with(Edge.people("01", "01", "00", "10"), "least 2");
+        z.meet(1, 2, true);
+        z.meet(2, 3, true);
+        dueLikely("of four", z, 1, 1, 1);
+        dueLikely("of four", z, 2, 1, 1);
+        // 0 1 go, 0 3 come, then 0 2; or 1 3 come, then none; 0 2 go, 0 3 come, then 0 1 or 1 3
+        dueLikely("of four", z, 3, 3, 4);
         Edge.says(24, "LIKELY of n; part 0 above, 1 below the line. NO.");
         for (int part = 0; part < 2; part++) {
             for (int no : new int[] {-1, 0, 4, 5, FAR, FAR_BELOW}) {
@@ -549,6 +584,14 @@ final class EdgesOfRows {
             x.book(1);
             Edge.due("readBook() of " + k, x.readBook(), k);
         }
+        x.book(-1);
+        Edge.due("readBook() of none any more", x.readBook(), 0);
+        x.book(1);
+        x.book(1);
+        Edge.due("readBook() of two behind twelve", x.readBook(), 2);
+        for (int k = 3; k <= 12; k++) {
+            x.book(1);
+        }
         x.boat(1);
         Edge.due("readBook() with the boat away", x.readBook(), 0);
         x.set(0, 0, 1);
@@ -568,6 +611,10 @@ final class EdgesOfRows {
             y.book(group);
         }
         Edge.due("readBook(): 1 does not come with the boat", y.readBook(), 2);
+        y.book(-1);
+        Edge.due("readBook() of none any more", y.readBook(), 0);
+        y.book(3);
+        Edge.due("readBook() of the one that is told now", y.readBook(), 1);
         OnlyStrangers z = Edge.with(Edge.people("01", "11"), "forget 2");
         z.meet(0, 1, true);
         for (int group : new int[] {1, 3, 3, 4}) {

@@ -571,6 +571,7 @@ final class EdgesOfTexts {
         Edge.due("group(3, 1)", x.group(3, 1), 7);
         Edge.due("group(1, 1)", x.group(1, 1), 0);
         Edge.due("count(1)", x.count(1), 1);
+        Edge.due("parish() of a fault", Edge.parish(x, "worth 9 n<9;worth 9 n<9;worth 9 n<9;bar a<9;"), -54);
         Edge.with(x, "worth 2 n=1");
         int[] told = {2, 1, 0};
         for (int what = 0; what < 3; what++) {

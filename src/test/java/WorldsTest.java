@@ -3,7 +3,7 @@
  * of four and five; what can be there is as in Model.
  */
 public final class WorldsTest {
-    private static final String[] SIZES = {"holds 1", "holds 2", "holds 3", "holds 2;least 2", "holds 3;least 2",
+    private static final String[] SIZES = {"holds 1", "holds 2;least 0", "holds 3", "holds 2;least 2", "holds 3;least 2",
         "holds 3;least 3", "holds 5;least 4", "holds 4;forget 1", "holds 2;forget 2;bar a=0&b=2"};
     private static int worlds = 0;
     private static int wrong = 0;
