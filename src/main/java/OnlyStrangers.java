@@ -980,7 +980,9 @@ public final class OnlyStrangers {
                     at++;
                 }
             }
-            failed |= digits == 0;
+            if (digits == 0) {
+                failed = true;
+            }
             return number;
         }
 
@@ -1035,7 +1037,7 @@ public final class OnlyStrangers {
             }
         }
 
-        /** F. */
+        /** F: at the bottom of it a test. */
         private void readOne(Parish parish, int depth) {
             if (failed) {
                 return;
@@ -1049,16 +1051,12 @@ public final class OnlyStrangers {
                 readAny(parish, depth + 1);
                 skip(')');
             } else {
-                readTest(parish);
-            }
-        }
-
-        private void readTest(Parish parish) {
-            int letter = placeIn("abnwsc");
-            int sign = placeIn("<=>");
-            int number = readNumber();
-            if (!failed) {
-                parish.addStep((letter * 3 + sign) * 100 + number);
+                int letter = placeIn("abnwsc");
+                int sign = placeIn("<=>");
+                int number = readNumber();
+                if (!failed) {
+                    parish.addStep((letter * 3 + sign) * 100 + number);
+                }
             }
         }
 

@@ -434,7 +434,7 @@ final class Model {
         Set<String> seen = new HashSet<>(Set.of(f.key()));
         ArrayDeque<State> todo = new ArrayDeque<>(List.of(f));
         int left = (1 << now.shores.size()) - 1;
-        while (!todo.isEmpty()) {
+        while (!todo.isEmpty() && left != 0) {
             State s = todo.pop();
             for (int g : all(s)) {
                 if (s.members(g).size() >= 2) {
